@@ -1,0 +1,144 @@
+/**
+ * What the tests share. Grammars are written as texts: "A=aBB|a B=b|" has rule 0 (A) and rule 1
+ * (B); small letters are tokens from 0 on, capital letters rules, and nothing is an alternative
+ * without symbols. Inputs are texts of small letters.
+ */
+final class Checks {
+    interface Call {
+        void go();
+    }
+
+    static final long END = 1L << 32;
+
+    private static int wrong;
+
+    private Checks() {}
+
+    static void due(String what, long got, long want) {
+        if (got != want) {
+            wrong++;
+            System.out.println(what + " answered " + got + ", due is " + want);
+        }
+    }
+
+    static void due(String what, String got, String want) {
+        if (!got.equals(want)) {
+            wrong++;
+            System.out.println(what + " answered " + got + ", due is " + want);
+        }
+    }
+
+    static void dueThrow(String what, Class<? extends RuntimeException> want, Call call) {
+        String got = "nothing";
+        try {
+            call.go();
+        } catch (RuntimeException e) {
+            got = e.getClass().getName();
+        }
+        due(what + " throws", got, want.getName());
+    }
+
+    /** The call throws, and all that the object tells is the same before and after it. */
+    static void dueThrowOnly(
+            String what, Class<? extends RuntimeException> want, FirstTrees x, Call call) {
+        String before = allOf(x);
+        dueThrow(what, want, call);
+        due("all that is told after " + what, allOf(x), before);
+    }
+
+    static void end() {
+        System.out.println(wrong == 0 ? "all answers are as due" : wrong + " answers are not as due");
+        if (wrong != 0) {
+            System.exit(1);
+        }
+    }
+
+    static FirstTrees of(String grammar) {
+        FirstTrees x = new FirstTrees();
+        addRules(x, grammar);
+        return x;
+    }
+
+    static FirstTrees of(String grammar, String input) {
+        FirstTrees x = of(grammar);
+        addTokens(x, input);
+        return x;
+    }
+
+    static void addRules(FirstTrees x, String grammar) {
+        String[] rules = grammar.split(" ");
+        for (int rule = 0; rule < rules.length; rule++) {
+            x.rule();
+        }
+        for (int rule = 0; rule < rules.length; rule++) {
+            String right = rules[rule].substring(2);
+            for (String alternative : right.split("\\|", -1)) {
+                x.alternative(rule);
+                for (char c : alternative.toCharArray()) {
+                    x.symbol(rule, symbolOf(c));
+                }
+            }
+        }
+    }
+
+    static int symbolOf(char c) {
+        return c >= 'a' ? c - 'a' : -1 - (c - 'A');
+    }
+
+    static void addTokens(FirstTrees x, String input) {
+        for (char c : input.toCharArray()) {
+            x.token(c - 'a');
+        }
+    }
+
+    static void setInput(FirstTrees x, String input) {
+        x.keep(0);
+        addTokens(x, input);
+    }
+
+    /** A set from letters, '$' for the end. */
+    static long set(String letters) {
+        long set = 0;
+        for (char c : letters.toCharArray()) {
+            set |= c == '$' ? END : 1L << (c - 'a');
+        }
+        return set;
+    }
+
+    /** Each node as rule.alternative:begin-end^above/below?look. */
+    static String treeOf(FirstTrees x) {
+        StringBuilder all = new StringBuilder();
+        for (int i = 0; i < x.nodes(); i++) {
+            all.append(i == 0 ? "" : " ");
+            all.append((char) ('A' + x.node(i, 0))).append(x.node(i, 1));
+            all.append(':').append(x.node(i, 2)).append('-').append(x.node(i, 3));
+            all.append('^').append(x.node(i, 4)).append('/').append(x.node(i, 5));
+            all.append('?').append(x.node(i, 6));
+        }
+        return all.toString();
+    }
+
+    static String allOf(FirstTrees x) {
+        StringBuilder all = new StringBuilder();
+        for (int what = 0; what < 18; what++) {
+            all.append(x.count(what)).append(' ');
+        }
+        all.append("fault ").append(x.fault()).append(' ').append(x.faulty());
+        all.append(" tree ").append(treeOf(x));
+        if (x.fault() != 0) {
+            return all.toString();
+        }
+        all.append(" reach ").append(x.reach());
+        for (int place = 0; place <= x.count(1); place++) {
+            all.append(' ').append(x.expected(place));
+        }
+        for (int rule = 0; rule < x.count(0); rule++) {
+            all.append(" rule ").append(x.isNothing(rule)).append(' ').append(x.first(rule));
+            all.append(' ').append(x.following(rule));
+            for (int t = 0; t <= 32; t++) {
+                all.append(' ').append(x.lets(rule, t));
+            }
+        }
+        return all.toString();
+    }
+}
