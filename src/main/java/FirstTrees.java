@@ -87,10 +87,12 @@ public final class FirstTrees {
     }
 
     public int fault() {
+        study.bringUpToDate();
         return study.faultKind();
     }
 
     public int faulty() {
+        study.bringUpToDate();
         return study.faultyRule();
     }
 
@@ -145,7 +147,7 @@ public final class FirstTrees {
     public int reach() throws IllegalStateException {
         mustBeRight();
         chart.fill(input.size());
-        return chart.hasTree() ? input.size() + 1 : chart.ruleFar(0, 0);
+        return chart.hasTree() ? input.size() + 1 : chart.farOfAll();
     }
 
     public long expected(int place) throws IllegalStateException, IllegalArgumentException {
@@ -154,7 +156,7 @@ public final class FirstTrees {
             throw new IllegalArgumentException("no such place");
         }
         chart.fill(place);
-        return chart.soon() | (chart.hasTree() ? 1L << END : 0L);
+        return chart.soonOfAll() | (chart.hasTree() ? 1L << END : 0L);
     }
 
     public boolean isNothing(int rule) throws IllegalStateException, IndexOutOfBoundsException {
@@ -202,6 +204,7 @@ public final class FirstTrees {
     }
 
     private void mustBeRight() {
+        study.bringUpToDate();
         if (study.faultKind() != RIGHT) {
             throw new IllegalStateException("the grammar is not right");
         }
@@ -211,7 +214,7 @@ public final class FirstTrees {
         return (set >>> member & 1L) != 0;
     }
 
-    /** The rules; an alternative is known to the other classes by its ROW, a number over all rules. */
+    /** The rules; to the other classes an alternative is a ROW, with a number over all rules. */
     private static final class Grammar {
         private int rules;
         private final int[] alternatives = new int[MOST_RULES];
@@ -306,13 +309,27 @@ public final class FirstTrees {
             current = false;
         }
 
+        /** Comes before every question. */
+        void bringUpToDate() {
+            if (current) {
+                return;
+            }
+            current = true;
+            findNothing();
+            findLeft();
+            findFault();
+            if (fault == RIGHT) {
+                findOrder();
+                findFirsts();
+                findFollowings();
+            }
+        }
+
         int faultKind() {
-            bringUpToDate();
             return fault;
         }
 
         int faultyRule() {
-            bringUpToDate();
             return faulty;
         }
 
@@ -344,26 +361,11 @@ public final class FirstTrees {
             return in;
         }
 
-        private void bringUpToDate() {
-            if (current) {
-                return;
-            }
-            current = true;
-            findNothing();
-            findLeft();
-            findFault();
-            if (fault == RIGHT) {
-                findOrder();
-                findFirsts();
-                findFollowings();
-            }
-        }
-
         private void findNothing() {
             nothing = 0;
-            int before = NONE;
-            for (int pass = 0; pass <= MOST_RULES && nothing != before; pass++) {
-                before = nothing;
+            boolean changed = true;
+            for (int pass = 0; pass <= MOST_RULES && changed; pass++) {
+                int before = nothing;
                 for (int rule = 0; rule < grammar.rules(); rule++) {
                     for (int k = 0; k < grammar.alternatives(rule); k++) {
                         if (rowIsNothing(Grammar.row(rule, k))) {
@@ -371,6 +373,7 @@ public final class FirstTrees {
                         }
                     }
                 }
+                changed = nothing != before;
             }
         }
 
@@ -452,7 +455,7 @@ public final class FirstTrees {
             return false;
         }
 
-        /** A rule has more rules at its left than each of those has: so their number is an order. */
+        /** A rule has more rules at its left than each of those has: their number is an order. */
         private void findOrder() {
             int placed = 0;
             for (int number = 0; number < MOST_RULES; number++) {
@@ -585,32 +588,42 @@ public final class FirstTrees {
         }
 
         boolean hasTree() {
-            return has(ruleFits[0], end);
+            return has(ruleFits[at(0, 0)], end);
+        }
+
+        /** How far rule 0 takes tokens from the beginning. */
+        int farOfAll() {
+            return ruleFar[at(0, 0)];
         }
 
         /** The tokens that rule 0, from the beginning, would take at the end. */
-        long soon() {
-            return ruleSoon[0];
+        long soonOfAll() {
+            return ruleSoon[at(0, 0)];
         }
 
         int end() {
             return end;
         }
 
-        long rowFits(int row, int place) {
-            return rowFits[row * PLACES + place];
+        /** Where a rule or a row stands for a place, in the rows of its kind. */
+        static int at(int ruleOrRow, int place) {
+            return ruleOrRow * PLACES + place;
         }
 
-        int rowFar(int row, int place) {
-            return rowFar[row * PLACES + place];
+        long rowFits(int at) {
+            return rowFits[at];
         }
 
-        long ruleFits(int rule, int place) {
-            return ruleFits[rule * PLACES + place];
+        int rowFar(int at) {
+            return rowFar[at];
         }
 
-        int ruleFar(int rule, int place) {
-            return ruleFar[rule * PLACES + place];
+        long ruleFits(int at) {
+            return ruleFits[at];
+        }
+
+        int ruleFar(int at) {
+            return ruleFar[at];
         }
 
         private void findPlaces() {
@@ -629,15 +642,15 @@ public final class FirstTrees {
             for (int k = 0; k < grammar.alternatives(rule); k++) {
                 int row = Grammar.row(rule, k);
                 readRow(row, place);
-                rowFits[row * PLACES + place] = here;
-                rowFar[row * PLACES + place] = far;
+                rowFits[at(row, place)] = here;
+                rowFar[at(row, place)] = far;
                 allFits |= here;
                 farthest = Math.max(farthest, far);
                 allSoon |= soon;
             }
-            ruleFits[rule * PLACES + place] = allFits;
-            ruleFar[rule * PLACES + place] = farthest;
-            ruleSoon[rule * PLACES + place] = allSoon;
+            ruleFits[at(rule, place)] = allFits;
+            ruleFar[at(rule, place)] = farthest;
+            ruleSoon[at(rule, place)] = allSoon;
         }
 
         private void readRow(int row, int place) {
@@ -659,18 +672,16 @@ public final class FirstTrees {
                 soon |= 1L << token;
             }
             here = (here & placesOf[token]) << 1;
-            for (int place = end; place > far; place--) {
-                if (has(here, place)) {
-                    far = place;
-                }
+            for (int place = far + 1; place <= end && here >>> place != 0; place++) {
+                far = place;
             }
         }
 
         private void readRule(int rule, int from) {
             long next = 0;
-            for (int place = from; place <= end; place++) {
+            for (int place = from; place <= end && here >>> place != 0; place++) {
                 if (has(here, place)) {
-                    int at = rule * PLACES + place;
+                    int at = at(rule, place);
                     next |= ruleFits[at];
                     far = Math.max(far, ruleFar[at]);
                     soon |= ruleSoon[at];
@@ -680,7 +691,7 @@ public final class FirstTrees {
         }
     }
 
-    /** How many ways a rule has from a place to another one; each number stops at the most trees. */
+    /** How many ways a rule has from a place to another one, up to the most trees told. */
     private static final class Ways {
         private final Grammar grammar;
         private final Study study;
@@ -716,7 +727,7 @@ public final class FirstTrees {
             }
             for (int k = 0; k < grammar.alternatives(rule); k++) {
                 int row = Grammar.row(rule, k);
-                if (chart.rowFits(row, from) != 0) {
+                if (chart.rowFits(Chart.at(row, from)) != 0) {
                     readRow(row, from);
                     addRow(rule, from);
                 }
@@ -745,7 +756,7 @@ public final class FirstTrees {
             }
         }
 
-        // Both go from the right, since a place needs the old numbers of those at its left alone.
+        // Both go from the right, so that the numbers at the left are still the old ones.
 
         private void readToken(int token, int from) {
             for (int to = chart.end(); to > from; to--) {
@@ -755,15 +766,19 @@ public final class FirstTrees {
         }
 
         private void readRule(int rule, int from) {
-            for (int to = chart.end(); to >= from; to--) {
-                long sum = 0;
-                for (int between = from; between <= to; between++) {
-                    if (here[between] != 0) {
-                        long more = here[between] * ofRule[at(rule, between, to)];
-                        sum = Math.min(MOST_TREES, sum + more);
-                    }
+            for (int between = chart.end(); between >= from; between--) {
+                long before = here[between];
+                here[between] = 0;
+                if (before != 0) {
+                    spread(before, rule, between);
                 }
-                here[to] = sum;
+            }
+        }
+
+        private void spread(long before, int rule, int from) {
+            for (int to = from; to <= chart.end(); to++) {
+                long more = before * ofRule[at(rule, from, to)];
+                here[to] = Math.min(MOST_TREES, here[to] + more);
             }
         }
     }
@@ -798,7 +813,7 @@ public final class FirstTrees {
             this.chart = chart;
         }
 
-        /** By the chart, which has a tree; false, as soon as it is seen that it has too many nodes. */
+        /** By the chart, which has a tree; false as soon as it is seen to have too many nodes. */
         boolean derive(Tree tree) {
             tree.empty();
             place = 0;
@@ -832,7 +847,7 @@ public final class FirstTrees {
             return true;
         }
 
-        /** One of them fits, the way that led here: so it is the last one if none before it does. */
+        /** One of them fits, or the walk were not here: so the last one, if none before it. */
         private int firstFitting(int rule) {
             int last = grammar.alternatives(rule) - 1;
             for (int k = 0; k < last; k++) {
@@ -847,18 +862,19 @@ public final class FirstTrees {
             if (grammar.alternatives(rule) == 1) {
                 return 0;
             }
-            int farthest = place;
+            int others = place;
             for (int k = 0; k < grammar.alternatives(rule); k++) {
                 if (k != chosen) {
-                    farthest = Math.max(farthest, reachOfRow(Grammar.row(rule, k)));
+                    others = Math.max(others, reachOfRow(Grammar.row(rule, k)));
                 }
             }
-            return Math.min(farthest, chart.end()) - place + 1;
+            return Math.min(others, chart.end()) - place + 1;
         }
 
         private int reachOfRow(int row) {
             int[] behind = stack[pending].reaches;
-            return farthest(chart.rowFar(row, place), chart.rowFits(row, place), place, behind);
+            int at = Chart.at(row, place);
+            return farthest(chart.rowFar(at), chart.rowFits(at), place, behind);
         }
 
         /** The reach of what takes tokens to `far` and fits to `fits`, with what is behind it. */
@@ -885,7 +901,7 @@ public final class FirstTrees {
         private void layRow(int row, int node) {
             for (int k = grammar.length(row) - 1; k >= 0; k--) {
                 lay(grammar.symbolAt(row, k), node);
-                // The row's front symbol is the next one: nothing comes before it, to ask.
+                // Nothing is ever laid on the row's front symbol, so nothing asks for its reaches.
                 if (k > 0) {
                     findReaches();
                 }
@@ -910,19 +926,18 @@ public final class FirstTrees {
             int[] behind = stack[pending - 1].reaches;
             int symbol = stack[pending].symbol;
             for (int from = place; from <= chart.end(); from++) {
-                reaches[from] = Grammar.isToken(symbol)
-                        ? reachOfToken(symbol, from, behind)
-                        : reachOfRule(Grammar.ruleOf(symbol), from, behind);
+                if (Grammar.isToken(symbol)) {
+                    reaches[from] = reachOfToken(symbol, from, behind);
+                } else {
+                    int at = Chart.at(Grammar.ruleOf(symbol), from);
+                    reaches[from] = farthest(chart.ruleFar(at), chart.ruleFits(at), from, behind);
+                }
             }
         }
 
         private int reachOfToken(int token, int from, int[] behind) {
             boolean isTaken = from < chart.end() && input.tokenAt(from) == token;
             return isTaken ? behind[from + 1] : from;
-        }
-
-        private int reachOfRule(int rule, int from, int[] behind) {
-            return farthest(chart.ruleFar(rule, from), chart.ruleFits(rule, from), from, behind);
         }
     }
 
@@ -970,7 +985,7 @@ public final class FirstTrees {
             facts[at + LOOK] = look;
         }
 
-        /** From the last node on: so each one has the tokens of those below it before it is asked. */
+        /** From the last node on: so each one has got the tokens of those below it. */
         void findEnds() {
             for (int node = size - 1; node >= 0; node--) {
                 int at = node * FACTS;

@@ -1,7 +1,9 @@
 /** Promises 1 to 7 and 19: building a grammar, its faults, and what is counted. */
 public final class GrammarTest {
-    private static final Class<IndexOutOfBoundsException> NO_INDEX = IndexOutOfBoundsException.class;
-    private static final Class<IllegalArgumentException> NO_ARGUMENT = IllegalArgumentException.class;
+    private static final Class<IndexOutOfBoundsException> NO_INDEX =
+            IndexOutOfBoundsException.class;
+    private static final Class<IllegalArgumentException> NO_ARGUMENT =
+            IllegalArgumentException.class;
     private static final Class<IllegalStateException> NO_STATE = IllegalStateException.class;
     private static final Class<UnsupportedOperationException> FULL =
             UnsupportedOperationException.class;
@@ -106,6 +108,7 @@ public final class GrammarTest {
 
     private static void clear() {
         FirstTrees x = Checks.of("A=aB|b B=c|dd");
+        Checks.due("before clear(): fault()", x.fault(), 0);
         Checks.due("clear()", x.clear(), 2);
         for (int what = 0; what < 18; what++) {
             Checks.due("cleared: count(" + what + ")", x.count(what), 0);

@@ -1,6 +1,7 @@
 /** Promises 8 and 9: the input. */
 public final class InputTest {
-    private static final Class<IllegalArgumentException> NO_ARGUMENT = IllegalArgumentException.class;
+    private static final Class<IllegalArgumentException> NO_ARGUMENT =
+            IllegalArgumentException.class;
 
     public static void main(String[] args) {
         tokens();

@@ -134,6 +134,9 @@ public final class ParseTest {
         Checks.due("parse() of 60 tokens in 8 parts", x.parse(), 869648208);
         FirstTrees more = Checks.of("A=BBBBBBBB B=CC C=aC|", "a".repeat(60));
         Checks.due("parse() of 60 tokens in 16 parts", more.parse(), most);
+        // 8 to the 64th: more than a long can hold.
+        FirstTrees much = Checks.of("A=BBBBBBBB B=CCCCCCCC C=|||||||");
+        Checks.due("parse() with very many trees", much.parse(), most);
     }
 
     private static void mostNodes() {

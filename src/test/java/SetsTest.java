@@ -7,6 +7,7 @@ public final class SetsTest {
         followings();
         lets();
         greatestTokens();
+        longChains();
         newAfterChange();
         wrongArguments();
         Checks.end();
@@ -104,6 +105,22 @@ public final class SetsTest {
         Checks.due("lets(1, 30)", x.lets(1, 30), 1);
         Checks.due("lets(1, 32)", x.lets(1, 32), 0);
         Checks.due("lets(1, 0)", x.lets(1, 0), 0);
+    }
+
+    /** What is found of one rule by way of all the 15 others, against their order and along it. */
+    private static void longChains() {
+        FirstTrees x = Checks.of(
+                "A=BB B=CC C=DD D=EE E=FF F=GG G=HH H=II I=JJ J=KK K=LL L=MM M=NN N=OO O=PP P=p|");
+        dueRule(x, 0, true, "p", "$");
+        dueRule(x, 15, true, "p", "p$");
+        Checks.due("lets(0, end)", x.lets(0, 32), 1);
+        x.clear();
+        Checks.addRules(x,
+                "A=aP B=b C=B D=C E=D F=E G=F H=G I=H J=I K=J L=K M=L N=M O=N P=O");
+        dueRule(x, 1, false, "b", "$");
+        dueRule(x, 15, false, "b", "$");
+        x.alternative(1);
+        dueRule(x, 15, true, "b", "$");
     }
 
     private static void newAfterChange() {
