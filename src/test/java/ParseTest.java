@@ -180,6 +180,12 @@ public final class ParseTest {
         Checks.due("another node's end", x.node(16 * 7 + 3, 3), 53);
         Checks.due("the first node's end", x.node(0, 3), 60);
         Checks.due("reach()", x.reach(), 61);
+        // 27 symbols for each token are to come at the deepest node.
+        FirstTrees y = Checks.of("A=BEEEEEEE| B=CEEEEEEE C=DEEEEEEE D=aAEEEEEE E=|b", "a".repeat(60));
+        Checks.due("parse() with much to come", y.parse(), 1);
+        Checks.due("nodes with much to come", y.nodes(), 60 * 31 + 1);
+        Checks.due("the last node's begin", y.node(1860, 2), 60);
+        Checks.due("the last node's above", y.node(1860, 4), 0);
     }
 
     private static void ruleThatNeverEnds() {
