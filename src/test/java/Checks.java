@@ -1,12 +1,18 @@
 /**
- * What the tests share. Grammars are written as texts: "A=aBB|a B=b|" has rule 0 (A) and rule 1
- * (B); small letters are tokens from 0 on, capital letters rules, and nothing is an alternative
- * without symbols. Inputs are texts of small letters.
+ * What the tests share. Grammars are written as texts: "A=aBB|a B=b| C" has rule 0 (A), rule 1
+ * (B) and rule 2 (C); small letters are tokens from 0 on, capital letters rules, nothing is an
+ * alternative without symbols, and C has no alternative. Inputs are texts of small letters.
+ * Tokens 26 to 31, for which there is no letter, are written 1 to 6.
  */
 final class Checks {
     interface Call {
         void go();
     }
+
+    static final Class<IndexOutOfBoundsException> INDEX = IndexOutOfBoundsException.class;
+    static final Class<IllegalArgumentException> ARGUMENT = IllegalArgumentException.class;
+    static final Class<IllegalStateException> STATE = IllegalStateException.class;
+    static final Class<UnsupportedOperationException> FULL = UnsupportedOperationException.class;
 
     static final long END = 1L << 32;
 
@@ -26,6 +32,10 @@ final class Checks {
             wrong++;
             System.out.println(what + " answered " + got + ", due is " + want);
         }
+    }
+
+    static void due(String what, boolean got, boolean want) {
+        due(what, String.valueOf(got), String.valueOf(want));
     }
 
     static void dueThrow(String what, Class<? extends RuntimeException> want, Call call) {
@@ -66,13 +76,12 @@ final class Checks {
     }
 
     static void addRules(FirstTrees x, String grammar) {
-        String[] rules = grammar.split(" ");
-        for (int rule = 0; rule < rules.length; rule++) {
+        int rules = numberOfRules(grammar);
+        for (int rule = 0; rule < rules; rule++) {
             x.rule();
         }
-        for (int rule = 0; rule < rules.length; rule++) {
-            String right = rules[rule].substring(2);
-            for (String alternative : right.split("\\|", -1)) {
+        for (int rule = 0; rule < rules; rule++) {
+            for (String alternative : alternativesOf(grammar, rule)) {
                 x.alternative(rule);
                 for (char c : alternative.toCharArray()) {
                     x.symbol(rule, symbolOf(c));
@@ -81,13 +90,27 @@ final class Checks {
         }
     }
 
+    static int numberOfRules(String grammar) {
+        return grammar.isEmpty() ? 0 : grammar.split(" ").length;
+    }
+
+    static String[] alternativesOf(String grammar, int rule) {
+        String text = grammar.split(" ")[rule];
+        return text.length() == 1 ? new String[0] : text.substring(2).split("\\|", -1);
+    }
+
     static int symbolOf(char c) {
-        return c >= 'a' ? c - 'a' : -1 - (c - 'A');
+        boolean isRule = c >= 'A' && c <= 'Z';
+        return isRule ? -1 - (c - 'A') : tokenOf(c);
+    }
+
+    static int tokenOf(char c) {
+        return c >= 'a' ? c - 'a' : 25 + (c - '0');
     }
 
     static void addTokens(FirstTrees x, String input) {
         for (char c : input.toCharArray()) {
-            x.token(c - 'a');
+            x.token(tokenOf(c));
         }
     }
 
@@ -100,7 +123,7 @@ final class Checks {
     static long set(String letters) {
         long set = 0;
         for (char c : letters.toCharArray()) {
-            set |= c == '$' ? END : 1L << (c - 'a');
+            set |= c == '$' ? END : 1L << tokenOf(c);
         }
         return set;
     }
