@@ -57,7 +57,8 @@ final class Checks {
     }
 
     static void end() {
-        System.out.println(wrong == 0 ? "all answers are as due" : wrong + " answers are not as due");
+        String some = wrong + " answers are not as due";
+        System.out.println(wrong == 0 ? "all answers are as due" : some);
         if (wrong != 0) {
             System.exit(1);
         }

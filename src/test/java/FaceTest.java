@@ -25,7 +25,8 @@ public final class FaceTest {
         "boolean isNothing(int) IllegalStateException IndexOutOfBoundsException",
         "long first(int) IllegalStateException IndexOutOfBoundsException",
         "long following(int) IllegalStateException IndexOutOfBoundsException",
-        "int lets(int int) IllegalStateException IndexOutOfBoundsException IllegalArgumentException",
+        "int lets(int int) IllegalStateException IndexOutOfBoundsException"
+                + " IllegalArgumentException",
         "int count(int) IllegalArgumentException",
     };
 
@@ -43,7 +44,7 @@ public final class FaceTest {
         Checks.due("the methods", seen.toString(), new TreeSet<>(Arrays.asList(FACE)).toString());
         for (Field field : face.getDeclaredFields()) {
             boolean isSeen = !Modifier.isPrivate(field.getModifiers());
-            Checks.due(field.getName() + " is seen", isSeen ? 1 : 0, field.getName().equals("NONE") ? 1 : 0);
+            Checks.due(field.getName() + " is seen", isSeen, field.getName().equals("NONE"));
         }
         Constructor<?>[] constructors = face.getDeclaredConstructors();
         Checks.due("the constructors", constructors.length, 1);

@@ -1,13 +1,5 @@
 /** Promises 1 to 7 and 19: building a grammar, its faults, and what is counted. */
 public final class GrammarTest {
-    private static final Class<IndexOutOfBoundsException> NO_INDEX =
-            IndexOutOfBoundsException.class;
-    private static final Class<IllegalArgumentException> NO_ARGUMENT =
-            IllegalArgumentException.class;
-    private static final Class<IllegalStateException> NO_STATE = IllegalStateException.class;
-    private static final Class<UnsupportedOperationException> FULL =
-            UnsupportedOperationException.class;
-
     public static void main(String[] args) {
         newObject();
         rules();
@@ -31,9 +23,9 @@ public final class GrammarTest {
         Checks.due("new: nodes()", x.nodes(), 0);
         Checks.due("new: fault()", x.fault(), 1);
         Checks.due("new: faulty()", x.faulty(), FirstTrees.NONE);
-        Checks.dueThrowOnly("new: parse()", NO_STATE, x, () -> x.parse());
-        Checks.dueThrowOnly("new: node(0, 0)", NO_INDEX, x, () -> x.node(0, 0));
-        Checks.dueThrowOnly("new: keep(1)", NO_ARGUMENT, x, () -> x.keep(1));
+        Checks.dueThrowOnly("new: parse()", Checks.STATE, x, () -> x.parse());
+        Checks.dueThrowOnly("new: node(0, 0)", Checks.INDEX, x, () -> x.node(0, 0));
+        Checks.dueThrowOnly("new: keep(1)", Checks.ARGUMENT, x, () -> x.keep(1));
         FirstTrees other = Checks.of("A=a", "a");
         other.parse();
         Checks.due("two objects share nothing", x.count(0) + x.count(1) + x.nodes(), 0);
@@ -46,25 +38,26 @@ public final class GrammarTest {
             Checks.due("count(0)", x.count(0), rule + 1);
             Checks.due("a new rule's alternatives", x.count(2 + rule), 0);
         }
-        Checks.dueThrowOnly("the 17th rule()", FULL, x, () -> x.rule());
+        Checks.dueThrowOnly("the 17th rule()", Checks.FULL, x, () -> x.rule());
     }
 
     private static void alternatives() {
         FirstTrees x = new FirstTrees();
-        Checks.dueThrowOnly("alternative(0) without rules", NO_INDEX, x, () -> x.alternative(0));
+        Checks.dueThrowOnly("alternative(0) without rules", Checks.INDEX, x,
+                () -> x.alternative(0));
         x.rule();
         x.rule();
         for (int k = 0; k < 8; k++) {
             Checks.due("alternative(1)", x.alternative(1), k);
             Checks.due("count(3)", x.count(3), k + 1);
         }
-        Checks.dueThrowOnly("the 9th alternative(1)", FULL, x, () -> x.alternative(1));
+        Checks.dueThrowOnly("the 9th alternative(1)", Checks.FULL, x, () -> x.alternative(1));
         Checks.due("alternative(0)", x.alternative(0), 0);
-        Checks.dueThrowOnly("alternative(2)", NO_INDEX, x, () -> x.alternative(2));
-        Checks.dueThrowOnly("alternative(-1)", NO_INDEX, x, () -> x.alternative(-1));
-        Checks.dueThrowOnly("alternative(least)", NO_INDEX, x,
+        Checks.dueThrowOnly("alternative(2)", Checks.INDEX, x, () -> x.alternative(2));
+        Checks.dueThrowOnly("alternative(-1)", Checks.INDEX, x, () -> x.alternative(-1));
+        Checks.dueThrowOnly("alternative(least)", Checks.INDEX, x,
                 () -> x.alternative(Integer.MIN_VALUE));
-        Checks.due("a new alternative has no symbols", x.isNothing(0) ? 1 : 0, 1);
+        Checks.due("a new alternative has no symbols", x.isNothing(0), true);
     }
 
     private static void symbols() {
@@ -74,7 +67,7 @@ public final class GrammarTest {
         for (int k = 0; k < 8; k++) {
             Checks.due("symbol(0, " + k + ")", x.symbol(0, k), k + 1);
         }
-        Checks.dueThrowOnly("the 9th symbol", FULL, x, () -> x.symbol(0, 8));
+        Checks.dueThrowOnly("the 9th symbol", Checks.FULL, x, () -> x.symbol(0, 8));
         Checks.addTokens(x, "abcdefgh");
         Checks.due("8 symbols in their order", x.parse(), 1);
         x.alternative(0);
@@ -86,24 +79,25 @@ public final class GrammarTest {
 
     private static void symbolsNamedFirst() {
         FirstTrees x = new FirstTrees();
-        Checks.dueThrowOnly("symbol(0, 99) without rules", NO_INDEX, x, () -> x.symbol(0, 99));
+        Checks.dueThrowOnly("symbol(0, 99) without rules", Checks.INDEX, x, () -> x.symbol(0, 99));
         x.rule();
-        Checks.dueThrowOnly("symbol(0, 32) without alternative", NO_ARGUMENT, x,
+        Checks.dueThrowOnly("symbol(0, 32) without alternative", Checks.ARGUMENT, x,
                 () -> x.symbol(0, 32));
-        Checks.dueThrowOnly("symbol(0, 0) without alternative", NO_STATE, x, () -> x.symbol(0, 0));
+        Checks.dueThrowOnly("symbol(0, 0) without alternative", Checks.STATE, x,
+                () -> x.symbol(0, 0));
         x.alternative(0);
-        Checks.dueThrowOnly("symbol(0, -17)", NO_ARGUMENT, x, () -> x.symbol(0, -17));
-        Checks.dueThrowOnly("symbol(0, greatest)", NO_ARGUMENT, x,
+        Checks.dueThrowOnly("symbol(0, -17)", Checks.ARGUMENT, x, () -> x.symbol(0, -17));
+        Checks.dueThrowOnly("symbol(0, greatest)", Checks.ARGUMENT, x,
                 () -> x.symbol(0, Integer.MAX_VALUE));
-        Checks.dueThrowOnly("symbol(0, least)", NO_ARGUMENT, x,
+        Checks.dueThrowOnly("symbol(0, least)", Checks.ARGUMENT, x,
                 () -> x.symbol(0, Integer.MIN_VALUE));
         for (int k = 0; k < 8; k++) {
             x.symbol(0, 0);
         }
-        Checks.dueThrowOnly("symbol(0, 32) behind 8", NO_ARGUMENT, x, () -> x.symbol(0, 32));
-        Checks.dueThrowOnly("symbol(0, 0) behind 8", FULL, x, () -> x.symbol(0, 0));
-        Checks.dueThrowOnly("symbol(1, 0)", NO_INDEX, x, () -> x.symbol(1, 0));
-        Checks.dueThrowOnly("symbol(-1, 0)", NO_INDEX, x, () -> x.symbol(-1, 0));
+        Checks.dueThrowOnly("symbol(0, 32) behind 8", Checks.ARGUMENT, x, () -> x.symbol(0, 32));
+        Checks.dueThrowOnly("symbol(0, 0) behind 8", Checks.FULL, x, () -> x.symbol(0, 0));
+        Checks.dueThrowOnly("symbol(1, 0)", Checks.INDEX, x, () -> x.symbol(1, 0));
+        Checks.dueThrowOnly("symbol(-1, 0)", Checks.INDEX, x, () -> x.symbol(-1, 0));
     }
 
     private static void clear() {
@@ -114,12 +108,12 @@ public final class GrammarTest {
             Checks.due("cleared: count(" + what + ")", x.count(what), 0);
         }
         Checks.due("cleared: fault()", x.fault(), 1);
-        Checks.dueThrow("cleared: alternative(0)", NO_INDEX, () -> x.alternative(0));
+        Checks.dueThrow("cleared: alternative(0)", Checks.INDEX, () -> x.alternative(0));
         Checks.due("clear() again", x.clear(), 0);
         Checks.due("cleared: rule()", x.rule(), 0);
         Checks.due("a rule made anew has no alternatives", x.count(2), 0);
         Checks.due("cleared: alternative(0)", x.alternative(0), 0);
-        Checks.due("an alternative made anew has no symbols", x.isNothing(0) ? 1 : 0, 1);
+        Checks.due("an alternative made anew has no symbols", x.isNothing(0), true);
         Checks.due("cleared: symbol(0, 1)", x.symbol(0, 1), 1);
         Checks.due("first of the rule made anew", x.first(0), Checks.set("b"));
     }
@@ -142,13 +136,13 @@ public final class GrammarTest {
         Checks.due(grammar + ": faulty()", x.faulty(), faulty);
         Checks.due(grammar + ": faulty() once more", x.faulty(), faulty);
         if (fault != 0) {
-            Checks.dueThrowOnly(grammar + ": parse()", NO_STATE, x, () -> x.parse());
-            Checks.dueThrow(grammar + ": reach()", NO_STATE, () -> x.reach());
-            Checks.dueThrow(grammar + ": expected(9)", NO_STATE, () -> x.expected(9));
-            Checks.dueThrow(grammar + ": isNothing(99)", NO_STATE, () -> x.isNothing(99));
-            Checks.dueThrow(grammar + ": first(99)", NO_STATE, () -> x.first(99));
-            Checks.dueThrow(grammar + ": following(99)", NO_STATE, () -> x.following(99));
-            Checks.dueThrow(grammar + ": lets(99, 99)", NO_STATE, () -> x.lets(99, 99));
+            Checks.dueThrowOnly(grammar + ": parse()", Checks.STATE, x, () -> x.parse());
+            Checks.dueThrow(grammar + ": reach()", Checks.STATE, () -> x.reach());
+            Checks.dueThrow(grammar + ": expected(9)", Checks.STATE, () -> x.expected(9));
+            Checks.dueThrow(grammar + ": isNothing(99)", Checks.STATE, () -> x.isNothing(99));
+            Checks.dueThrow(grammar + ": first(99)", Checks.STATE, () -> x.first(99));
+            Checks.dueThrow(grammar + ": following(99)", Checks.STATE, () -> x.following(99));
+            Checks.dueThrow(grammar + ": lets(99, 99)", Checks.STATE, () -> x.lets(99, 99));
         }
     }
 
@@ -215,9 +209,10 @@ public final class GrammarTest {
         Checks.due("count(3)", x.count(3), 1);
         Checks.due("count(4)", x.count(4), 0);
         Checks.due("count(17)", x.count(17), 0);
-        Checks.dueThrowOnly("count(18)", NO_ARGUMENT, x, () -> x.count(18));
-        Checks.dueThrowOnly("count(-1)", NO_ARGUMENT, x, () -> x.count(-1));
-        Checks.dueThrowOnly("count(greatest)", NO_ARGUMENT, x, () -> x.count(Integer.MAX_VALUE));
+        Checks.dueThrowOnly("count(18)", Checks.ARGUMENT, x, () -> x.count(18));
+        Checks.dueThrowOnly("count(-1)", Checks.ARGUMENT, x, () -> x.count(-1));
+        Checks.dueThrowOnly("count(greatest)", Checks.ARGUMENT, x,
+                () -> x.count(Integer.MAX_VALUE));
         for (int rule = 2; rule < 16; rule++) {
             x.rule();
             x.alternative(rule);

@@ -140,7 +140,8 @@ public final class ParseBoundsTest {
 
     /** Promise 10: numbers of trees that are nothing, or below it, in 32 or 64 bits. */
     private static void treesThatWrapAround() {
-        for (long trees : new long[] {1L << 31, (1L << 31) + 5, 1L << 32, (1L << 32) + 1, 1L << 40}) {
+        long half = 1L << 31;
+        for (long trees : new long[] {half, half + 5, 2 * half, 2 * half + 1, 512 * half}) {
             Checks.due("parse() with " + trees, withTrees(trees).parse(), MOST);
         }
         // 2 to the 63rd, the 64th and the 65th.
@@ -153,7 +154,7 @@ public final class ParseBoundsTest {
         dueTrees("A=BBBBBBBB B=CCCCCCCC C=DDDDDDDD D=|||||||", "", MOST);
     }
 
-    /** Promise 10: "How many trees the input has": none, if a part of very many has none behind it. */
+    /** Promise 10: "How many trees the input has", where one with very many leads nowhere. */
     private static void treesThatComeToNothing() {
         dueTrees("A=BBBBBBBb B=CCCCCCCC C=|||||||", "", 0);
         dueTrees("A=BBBBBBBb|a B=CCCCCCCC C=|||||||", "a", 1);
@@ -239,6 +240,14 @@ public final class ParseBoundsTest {
         y.keep(1);
         Checks.due("parse() of 45 nodes", y.parse(), 1);
         Checks.due("45 nodes", y.nodes(), 45);
+        // All nodes and all tokens that there can be at once.
+        FirstTrees most = Checks.of("A=aBA|C B=DDDEEEE C=DD D=EEEEEEEE E=", "a".repeat(60));
+        Checks.due("parse() of 2000 nodes and 60 tokens", most.parse(), 1);
+        Checks.due("2000 nodes and 60 tokens", most.nodes(), 2000);
+        Checks.due("where the last one ends", most.node(1999, 3), 60);
+        Checks.due("where the first one ends", most.node(0, 3), 60);
+        most.symbol(2, -5);
+        Checks.dueThrowOnly("parse() of 2001 and 60", Checks.FULL, most, () -> most.parse());
         // Without a tree nothing is too large.
         FirstTrees z = Checks.of("A=BBBBBBBz B=CCCCCCCC C=DDDDDDDD D=EEEEEEEE E=");
         Checks.due("parse() of very large parts without a tree", z.parse(), 0);
@@ -443,7 +452,17 @@ public final class ParseBoundsTest {
             others[k] = "ac";
             dueLook("A=" + String.join("|", others), "ab", 0, 2);
         }
-        dueLook("A=" + String.join("|", rows), "ab", 0, 1);
+        String eight = "A=" + String.join("|", rows);
+        dueLook(eight, "ab", 0, 1);
+        // Those of the next rule are none of them, nor are those that were there before.
+        dueLook(eight + " B=ac|ab", "ab", 0, 1);
+        FirstTrees x = Checks.of("A=ab|ac|ab B=ac|ac", "ab");
+        x.parse();
+        Checks.due("three alternatives: node(0, 6)", x.node(0, 6), 3);
+        x.clear();
+        Checks.addRules(x, "A=ab|b");
+        x.parse();
+        Checks.due("two alternatives: node(0, 6)", x.node(0, 6), 1);
     }
 
     /** Terms: "WHAT IS TO COME behind a node": nothing behind the first; then all above it. */

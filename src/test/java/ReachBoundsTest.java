@@ -64,8 +64,8 @@ public final class ReachBoundsTest {
         dueReach("A=aBBBBBBb B=b|", "a", 1);
         for (String input : new String[] {"", "a", "b", "ab", "aab", "aba"}) {
             FirstTrees x = Checks.of("A=aA|b|", input);
-            boolean hasTree = x.parse() > 0;
-            Checks.due("'" + input + "': end and one more", x.reach() == input.length() + 1, hasTree);
+            int most = input.length() + 1;
+            Checks.due("'" + input + "': end and one more", x.reach() == most, x.parse() > 0);
         }
     }
 
@@ -220,7 +220,8 @@ public final class ReachBoundsTest {
         String[] want = {"a", "b$", "a", "b$", "a", ""};
         FirstTrees x = Checks.of("A=aB B=bA|", "ababb");
         for (int place = 0; place < want.length; place++) {
-            Checks.due("ababb: expected(" + place + ")", x.expected(place), Checks.set(want[place]));
+            long due = Checks.set(want[place]);
+            Checks.due("ababb: expected(" + place + ")", x.expected(place), due);
         }
         // At the beginning no tokens are before it.
         dueExpected("A=aA|", "a", 0, "a$");

@@ -94,14 +94,14 @@ public final class ReachTest {
 
     private static void wrongPlaces() {
         FirstTrees x = Checks.of("A=aA|", "aa");
-        Class<IllegalArgumentException> noPlace = IllegalArgumentException.class;
-        Checks.dueThrowOnly("expected(3)", noPlace, x, () -> x.expected(3));
-        Checks.dueThrowOnly("expected(-1)", noPlace, x, () -> x.expected(-1));
-        Checks.dueThrowOnly("expected(greatest)", noPlace, x, () -> x.expected(Integer.MAX_VALUE));
+        Checks.dueThrowOnly("expected(3)", Checks.ARGUMENT, x, () -> x.expected(3));
+        Checks.dueThrowOnly("expected(-1)", Checks.ARGUMENT, x, () -> x.expected(-1));
+        Checks.dueThrowOnly("expected(greatest)", Checks.ARGUMENT, x,
+                () -> x.expected(Integer.MAX_VALUE));
         x.clear();
-        Checks.dueThrowOnly("expected(3) without rules", IllegalStateException.class, x,
+        Checks.dueThrowOnly("expected(3) without rules", Checks.STATE, x,
                 () -> x.expected(3));
-        Checks.dueThrowOnly("reach() without rules", IllegalStateException.class, x,
+        Checks.dueThrowOnly("reach() without rules", Checks.STATE, x,
                 () -> x.reach());
     }
 
@@ -118,6 +118,6 @@ public final class ReachTest {
         Checks.due("reach() of 60", x.reach(), 61);
         Checks.due("expected(60)", x.expected(60), 1L << 31 | Checks.END);
         Checks.due("expected(0)", x.expected(0), 1L << 31 | Checks.END);
-        Checks.dueThrow("expected(61)", IllegalArgumentException.class, () -> x.expected(61));
+        Checks.dueThrow("expected(61)", Checks.ARGUMENT, () -> x.expected(61));
     }
 }

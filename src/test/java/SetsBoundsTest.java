@@ -156,7 +156,7 @@ public final class SetsBoundsTest {
         dueFirst("A=a|b|c|d|e|f|g|h", "abcdefgh");
     }
 
-    /** Rules 1 to 4 are eight tokens each, one of them an alternative; rule 0 is one of the four. */
+    /** Rules 1 to 4 have an alternative for each of eight tokens; rule 0 is one of the four. */
     private static FirstTrees withAllTokens() {
         FirstTrees x = new FirstTrees();
         for (int rule = 0; rule < 5; rule++) {

@@ -16,7 +16,7 @@ public final class SetsTest {
     private static void dueRule(
             FirstTrees x, int rule, boolean isNothing, String first, String following) {
         String name = "rule " + rule + ": ";
-        Checks.due(name + "isNothing", x.isNothing(rule) ? 1 : 0, isNothing ? 1 : 0);
+        Checks.due(name + "isNothing", x.isNothing(rule), isNothing);
         Checks.due(name + "first", x.first(rule), Checks.set(first));
         Checks.due(name + "following", x.following(rule), Checks.set(following));
     }
@@ -130,9 +130,9 @@ public final class SetsTest {
         x.symbol(0, 2);
         Checks.due("after a symbol: following(1)", x.following(1), Checks.set("c"));
         x.alternative(1);
-        Checks.due("after an alternative: isNothing(1)", x.isNothing(1) ? 1 : 0, 1);
+        Checks.due("after an alternative: isNothing(1)", x.isNothing(1), true);
         x.rule();
-        Checks.dueThrow("after a rule: first(0)", IllegalStateException.class, () -> x.first(0));
+        Checks.dueThrow("after a rule: first(0)", Checks.STATE, () -> x.first(0));
         x.alternative(2);
         Checks.due("first(2)", x.first(2), 0);
         Checks.due("following(2)", x.following(2), 0);
@@ -140,16 +140,16 @@ public final class SetsTest {
 
     private static void wrongArguments() {
         FirstTrees x = Checks.of("A=aB B=b");
-        Class<IndexOutOfBoundsException> noRule = IndexOutOfBoundsException.class;
-        Class<IllegalArgumentException> noToken = IllegalArgumentException.class;
         for (int rule : new int[] {2, -1, 16, Integer.MAX_VALUE, Integer.MIN_VALUE}) {
-            Checks.dueThrowOnly("isNothing(" + rule + ")", noRule, x, () -> x.isNothing(rule));
-            Checks.dueThrowOnly("first(" + rule + ")", noRule, x, () -> x.first(rule));
-            Checks.dueThrowOnly("following(" + rule + ")", noRule, x, () -> x.following(rule));
-            Checks.dueThrowOnly("lets(" + rule + ", 99)", noRule, x, () -> x.lets(rule, 99));
+            Checks.dueThrowOnly("isNothing(" + rule + ")", Checks.INDEX, x,
+                    () -> x.isNothing(rule));
+            Checks.dueThrowOnly("first(" + rule + ")", Checks.INDEX, x, () -> x.first(rule));
+            Checks.dueThrowOnly("following(" + rule + ")", Checks.INDEX, x,
+                    () -> x.following(rule));
+            Checks.dueThrowOnly("lets(" + rule + ", 99)", Checks.INDEX, x, () -> x.lets(rule, 99));
         }
         for (int t : new int[] {33, -1, Integer.MAX_VALUE, Integer.MIN_VALUE}) {
-            Checks.dueThrowOnly("lets(0, " + t + ")", noToken, x, () -> x.lets(0, t));
+            Checks.dueThrowOnly("lets(0, " + t + ")", Checks.ARGUMENT, x, () -> x.lets(0, t));
         }
     }
 }

@@ -19,9 +19,14 @@ public final class WideTest {
     private static int full;
 
     public static void main(String[] args) {
+        FirstTrees x = null;
         for (int g = 0; g < GRAMMARS; g++) {
             int[][][] rules = grammar();
-            FirstTrees x = new FirstTrees();
+            // Every other grammar takes the place of another one: nothing of that may be left.
+            if (g % 2 == 0) {
+                x = new FirstTrees();
+            }
+            x.clear();
             add(x, rules);
             if (x.fault() == 0) {
                 right++;
@@ -163,7 +168,9 @@ public final class WideTest {
         List<int[]> nodes = memo.firstTree(MOST_NODES);
         if (nodes == null) {
             tooLarge++;
+            int before = x.nodes();
             Checks.dueThrow(name + "parse()", Checks.FULL, () -> x.parse());
+            Checks.due(name + "nodes() of the tree before", x.nodes(), before);
             return;
         }
         parsed++;
